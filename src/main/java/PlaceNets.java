@@ -93,19 +93,19 @@ public final class PlaceNets {
     }
 
     public int can() {
-        return hasNet() ? told.readyBits(marking, 0) : NONE;
+        return hasNet() ? told.readyBits(marking) : NONE;
     }
 
     public int fire(int transition) {
         if (!told.hasTransition(transition)) {
             return NO_SUCH;
         }
-        if (!told.isReady(marking, 0, transition)) {
+        if (!told.isReady(marking, transition)) {
             return CANNOT;
         }
         keepAct();
         told.move(marking, 0, transition);
-        return Integer.bitCount(told.readyBits(marking, 0));
+        return Integer.bitCount(told.readyBits(marking));
     }
 
     public int put(int place, int n) {
@@ -131,7 +131,7 @@ public final class PlaceNets {
         keepAct();
         int s = seed;
         for (int fired = 0; fired < n; fired++) {
-            int ready = told.readyBits(marking, 0);
+            int ready = told.readyBits(marking);
             int choices = Integer.bitCount(ready);
             if (choices == 0) {
                 return fired;
@@ -255,7 +255,7 @@ public final class PlaceNets {
         if (r.tooMany) {
             return TOO_MANY;
         }
-        int at = r.find(wanted, 0);
+        int at = r.find(wanted);
         if (at == NONE) {
             return CANNOT;
         }
@@ -279,11 +279,8 @@ public final class PlaceNets {
         if (!hasNet() || i < 0) {
             return NONE;
         }
-        Flows f = flowsNow(0);
-        if (f.tooFar) {
-            return TOO_MANY;
-        }
-        return f.weigh(i, marking);
+        Flows f = placeFlowsNow();
+        return f.tooFar ? TOO_MANY : f.weigh(i, marking);
     }
 
     public int least(int kind, int i) {
@@ -447,18 +444,29 @@ public final class PlaceNets {
     }
 
     private Flows flowsNow(int kind) {
+        return kind == 0 ? placeFlowsNow() : transitionFlowsNow();
+    }
+
+    private Flows placeFlowsNow() {
         if (placeFlows == null) {
             placeFlows = new Flows(true);
         }
+        if (placeFlows.version != netVersion) {
+            placeFlows.build(told);
+            placeFlows.version = netVersion;
+        }
+        return placeFlows;
+    }
+
+    private Flows transitionFlowsNow() {
         if (transitionFlows == null) {
             transitionFlows = new Flows(false);
         }
-        Flows f = kind == 0 ? placeFlows : transitionFlows;
-        if (f.version != netVersion) {
-            f.build(told);
-            f.version = netVersion;
+        if (transitionFlows.version != netVersion) {
+            transitionFlows.build(told);
+            transitionFlows.version = netVersion;
         }
-        return f;
+        return transitionFlows;
     }
 
     private Sets setsNow() {
@@ -512,9 +520,9 @@ public final class PlaceNets {
             return puts[t * WIDTH + p] - takes[t * WIDTH + p];
         }
 
-        boolean isReady(int[] row, int base, int t) {
+        boolean isReady(int[] row, int t) {
             for (int p = 0; p < places; p++) {
-                int rest = row[base + p] - takes[t * WIDTH + p];
+                int rest = row[p] - takes[t * WIDTH + p];
                 if (rest < 0 || rest + puts[t * WIDTH + p] > MOST_TOKENS) {
                     return false;
                 }
@@ -522,10 +530,10 @@ public final class PlaceNets {
             return true;
         }
 
-        int readyBits(int[] row, int base) {
+        int readyBits(int[] row) {
             int bits = 0;
             for (int t = 0; t < transitions; t++) {
-                if (isReady(row, base, t)) {
+                if (isReady(row, t)) {
                     bits |= 1 << t;
                 }
             }
@@ -762,7 +770,7 @@ public final class PlaceNets {
             origin[0] = NONE;
             via[0] = NONE;
             nodes = 1;
-            for (int i = 0; i < nodes && !tooMany; i++) {
+            for (int i = 0; i < MOST_NODES && i < nodes && !tooMany; i++) {
                 ending[i] = isOld(i) ? IS_OLD : GOES_ON;
                 if (ending[i] == GOES_ON && !grow(net, i)) {
                     ending[i] = IS_DEAD;
@@ -933,7 +941,7 @@ public final class PlaceNets {
             count = 0;
             Arrays.fill(slots, NONE);
             add(net, marking, NONE, NONE);
-            for (int i = 0; i < count && !tooMany; i++) {
+            for (int i = 0; i < MOST_MARKINGS && i < count && !tooMany; i++) {
                 spread(net, i);
             }
             if (!tooMany) {
@@ -946,7 +954,7 @@ public final class PlaceNets {
                 if ((ready[i] >> t & 1) == 1) {
                     System.arraycopy(held, i * WIDTH, coming, 0, WIDTH);
                     net.move(coming, 0, t);
-                    int to = find(coming, 0);
+                    int to = find(coming);
                     next[i * MOST_TRANSITIONS + t] = to == NONE ? add(net, coming, i, t) : to;
                 }
             }
@@ -960,8 +968,8 @@ public final class PlaceNets {
             int i = count;
             count++;
             System.arraycopy(row, 0, held, i * WIDTH, WIDTH);
-            slots[slotOf(row, 0)] = i;
-            ready[i] = net.readyBits(row, 0);
+            slots[slotOf(row)] = i;
+            ready[i] = net.readyBits(row);
             origin[i] = from;
             via[i] = t;
             depth[i] = from == NONE ? 0 : depth[from] + 1;
@@ -969,19 +977,19 @@ public final class PlaceNets {
         }
 
         /** The marking that has the same in all places; NONE. */
-        int find(int[] row, int base) {
-            return slots[slotOf(row, base)];
+        int find(int[] row) {
+            return slots[slotOf(row)];
         }
 
         /** The slot of a marking, or the free one that would be its own. */
-        private int slotOf(int[] row, int base) {
+        private int slotOf(int[] row) {
             int mixed = 0;
             for (int p = 0; p < places; p++) {
-                mixed = mixed * 101 + row[base + p];
+                mixed = mixed * 101 + row[p];
             }
             int slot = (mixed ^ mixed >>> 13) & SLOTS - 1;
             for (int tries = 0; tries < SLOTS; tries++) {
-                if (slots[slot] == NONE || isSame(slots[slot], row, base)) {
+                if (slots[slot] == NONE || isSame(slots[slot], row)) {
                     return slot;
                 }
                 slot = slot + 1 & SLOTS - 1;
@@ -989,9 +997,9 @@ public final class PlaceNets {
             return slot;
         }
 
-        private boolean isSame(int i, int[] row, int base) {
+        private boolean isSame(int i, int[] row) {
             for (int p = 0; p < places; p++) {
-                if (held[i * WIDTH + p] != row[base + p]) {
+                if (held[i * WIDTH + p] != row[p]) {
                     return false;
                 }
             }
@@ -1087,7 +1095,7 @@ public final class PlaceNets {
     private static final class Flows {
         private static final int MOST_ROWS = 300;
         private static final int MOST_NUMBER = 1000000000;
-        // More than Euclid's way needs for any two longs.
+        // More than Euclid's way takes for any two longs.
         private static final int MOST_DIVISIONS = 100;
 
         int version;
@@ -1177,7 +1185,7 @@ public final class PlaceNets {
             return change;
         }
 
-        /** A number beyond what may be comes as one more than that: it is too great all the same. */
+        /** The sum comes in least terms; a number that is too great comes as the first that is. */
         private void join(int a, int b, int into) {
             long divisor = 0;
             for (int k = 0; k < width; k++) {
@@ -1408,7 +1416,7 @@ public final class PlaceNets {
         private final int[] picked = new int[MOST_TAKEN];
         private final int[] beside = new int[WORDS];
         private int places;
-        /** How many events the past of those has that are looked for, and which conditions they may have. */
+        /** Of the events that are looked for: how many their past has, below which number their conditions are. */
         private int pastSize;
         private int oldConditions;
 
@@ -1426,12 +1434,17 @@ public final class PlaceNets {
             for (int p = 0; p < places && !tooMany; p++) {
                 addConditions(p, marking[p], NONE);
             }
-            for (pastSize = 1; pastSize <= events + 1 && !tooMany; pastSize++) {
-                oldConditions = conditions;
-                for (int t = 0; t < net.transitions && !tooMany; t++) {
-                    System.arraycopy(net.takes, t * WIDTH, missing, 0, WIDTH);
-                    pick(net, t, net.takenInAll(t), 0, 0);
-                }
+            for (int size = 1; size <= MOST_EVENTS + 1 && size <= events + 1 && !tooMany; size++) {
+                findEvents(net, size);
+            }
+        }
+
+        private void findEvents(Net net, int size) {
+            pastSize = size;
+            oldConditions = conditions;
+            for (int t = 0; t < net.transitions && !tooMany; t++) {
+                System.arraycopy(net.takes, t * WIDTH, missing, 0, WIDTH);
+                pick(net, t, net.takenInAll(t), 0, 0);
             }
         }
 
