@@ -265,7 +265,8 @@ public final class PlaceNets {
     // ---- flows, siphons, traps
 
     public int flow(int kind, int i, int k) {
-        if (!hasNet() || kind < 0 || kind > 1 || i < NONE || (i >= 0 && k < 0)) {
+        boolean asked = i == NONE || (kind == 0 ? told.hasPlace(k) : told.hasTransition(k));
+        if (!hasNet() || kind < 0 || kind > 1 || i < NONE || !asked) {
             return NONE;
         }
         Flows f = flowsNow(kind);

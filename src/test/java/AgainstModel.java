@@ -1071,7 +1071,11 @@ public final class AgainstModel {
         }
 
         int flow(int kind, int i, int k) {
-            if (!net || kind < 0 || kind > 1 || i < -1 || (i >= 0 && k < 0)) {
+            if (!net || kind < 0 || kind > 1 || i < -1) {
+                return -1;
+            }
+            // k is the number of a place or of a transition: none such comes ahead of -2.
+            if (i >= 0 && (k < 0 || k >= (kind == 0 ? places : takes.size()))) {
                 return -1;
             }
             List<BigInteger[]> f = flowsOf(kind);

@@ -643,7 +643,11 @@ public final class Promises {
         due("21 a change of -1000000000", of(chain + ";A2B5C2E6G7HJ>").flow(0, -1, 0), 0);
         PlaceNets far = of(chain + ";A2B5C2E6G7HJ2>");
         due("21 a change of -1000000001", far.flow(0, -1, 0), -2);
-        due("21 too far, any i and k", far.flow(0, 1000, 1000), -2);
+        due("21 too far, any i", far.flow(0, 1000, 0), -2);
+        due("21 too far, any i, the last place", far.flow(0, GREATEST, 9), -2);
+        due("21 too far, whatever k is", far.flow(0, -1, GREATEST), -2);
+        due("21 too far, no such place", far.flow(0, 0, 10), -1);
+        due("21 too far, no such place, any i", far.flow(0, 1000, GREATEST), -1);
         due("21 too far, k below 0", far.flow(0, 0, -1), -1);
         due("21 too far, i below", far.flow(0, -2, 0), -1);
         due("21 too far, kind", far.flow(2, 0, 0), -1);
@@ -665,8 +669,26 @@ public final class Promises {
         due("21 rounds, a change of 774840978", of(rounds + "2").flow(1, -1, 0), 0);
         PlaceNets farRounds = of(rounds + "3");
         due("21 rounds, a change of 1162261467", farRounds.flow(1, -1, 0), -2);
-        due("21 rounds too far, any i and k", farRounds.flow(1, 9, 99), -2);
+        due("21 rounds too far, any i", farRounds.flow(1, 99, 9), -2);
+        due("21 rounds too far, whatever k is", farRounds.flow(1, -1, LEAST), -2);
+        due("21 rounds too far, no such transition", farRounds.flow(1, 0, 10), -1);
+        due("21 rounds too far, k below 0", farRounds.flow(1, 0, -1), -1);
+        farBySides();
         due("21 places do not go too far", farRounds.flow(0, -1, 0), 0);
+    }
+
+    /** Fewer transitions than places, and fewer places than transitions: k is asked of its own kind. */
+    private static void farBySides() {
+        PlaceNets wide = of("ABDGHIJ>CF2;BEFGJ>A2CDHI;AE2FH>BC2DGI;DFJ2>ABCGH2I");
+        due("21 too far, a place beyond the transitions", wide.flow(0, 0, 9), -2);
+        due("21 too far, no such place", wide.flow(0, 0, 10), -1);
+        due("21 places too far, a transition", wide.flow(1, -1, 0), 0);
+        due("21 places too far, no such transition", wide.flow(1, 0, 4), -1);
+        PlaceNets high = of("AC>B2D;AB>CD;>ABC2D;AD>BC;BC2>;BCD>A2;AB>CD;AC>BD2;A>BCD;ABD2>");
+        due("21 rounds too far", high.flow(1, -1, 0), -2);
+        due("21 rounds too far, a transition beyond the places", high.flow(1, 0, 9), -2);
+        due("21 rounds too far, no such transition", high.flow(1, 0, 10), -1);
+        due("21 rounds too far, a place", high.flow(0, 0, 3), -1);
     }
 
     private static void keeping() {
