@@ -338,6 +338,31 @@ public final class Boundaries {
         return x;
     }
 
+    /** A ring through all ten places; the transition behind the first one has to do with A. */
+    private static void tenOfBoth() {
+        said("a PLACE A .. J");
+        PlaceNets x = of("mA;B>C;A>B;C>D;D>E;E>F;F>G;G>H;H>I;I>J;J>A");
+        row("all of it", new int[] {x.count(0), x.count(1), x.kinds(), x.can(), x.node(NONE, 0), x.node(10, 12),
+            x.reached(NONE, 0), x.dead(2), x.alive(0), x.alive(9), x.bound(9), x.caught()},
+            10, 10, 31, 2, 11, 2, 10, 10, 2, 2, 1, 1);
+        row("flows", flow(x, 0, 0), 1, 1, 1, 1, 1, 1, 1, 1, 1, 1);
+        row("rounds", flow(x, 1, 0), 1, 1, 1, 1, 1, 1, 1, 1, 1, 1);
+        row("siphons", sets(x, 0), 1023);
+        row("traps", sets(x, 1), 1023);
+        row("events", new int[] {x.event(NONE, 0), x.event(0, 0), x.event(1, 0), x.event(9, 0), x.event(9, 2)},
+            10, 1, 0, 9, 1);
+        row("conditions", new int[] {x.condition(NONE, 0), x.condition(9, 0), x.condition(10, 0), x.condition(10, 1)},
+            11, 9, 0, 9);
+        row("left", leaves(x, 8), 0, 0, 0, 0, 0, 0, 0, 0, 0, 1);
+        x.goal(9, 1);
+        row("to J", new int[] {x.covers(0), x.covers(1), x.way(NONE), x.way(0), x.way(8)}, 9, 1, 9, 1, 8);
+        due("ten tokens for ten firings", x.run(5, 10), 10);
+        row("round", now(x), 1, 0, 0, 0, 0, 0, 0, 0, 0, 0);
+        due("free, whatever the next ones take", of("J>;A>;J>;B>").kinds() & 16, 16);
+        due("puts of the next one", of("mB;B>;>A").condition(NONE, 0), 1);
+        due("puts of the next one, ten places", of("mB;B>J;J>A").condition(NONE, 0), 3);
+    }
+
     private static void blanks() {
         said("Blanks (32) may stand ahead of all these, and at the end");
         noFault("  m  A2  B  ;  A  B2  >  C  A  ;  >  ", 2);
@@ -577,6 +602,16 @@ public final class Boundaries {
         due("the later one is old", late.node(5, 12), 2);
     }
 
+    private static void deadNodes() {
+        said("1 DEAD: nothing CAN fire");
+        due("one token too few", of("mA;A2>").node(0, 12), 1);
+        due("just enough", of("mA2;A2>").node(0, 12), 0);
+        due("none left", of("mA2;A2>").node(1, 12), 1);
+        due("no transitions", of("mA").node(0, 12), 1);
+        due("one that takes nothing", of("mA;>").node(0, 12), 0);
+        due("99 is no bound here", with("A>B", 1, 99).node(0, 12), 0);
+    }
+
     private static void twoHundredNodes() {
         said("200 NODES at most: a 201st: all that is told of these is -2");
         PlaceNets x = with("A>B;>", 99, 0);
@@ -585,6 +620,9 @@ public final class Boundaries {
         due("no 201st", x.node(200, 12), NONE);
         due("bound", x.bound(1), 99);
         due("covers", x.covers(1), 200);
+        PlaceNets ten = with("A>J;>", 99);
+        row("200 of ten places", new int[] {ten.node(NONE, 0), ten.node(199, 12), ten.bound(9), ten.covers(1)},
+            200, 2, 99, 200);
         PlaceNets y = with(WIDE, 66, 0);
         due("201", y.node(NONE, 0), -2);
         due("node 0", y.node(0, 0), -2);
@@ -609,6 +647,7 @@ public final class Boundaries {
         PlaceNets x = with(">A", 97);
         due("97, 98, 99", x.reached(NONE, 0), 3);
         due("99", x.reached(2, 0), 99);
+        due("0 to 99 beside another", of("mC;>A").reached(NONE, 0), 100);
         due("none can there", x.reached(2, 10), 0);
         PlaceNets y = with("A>B", 1, 99);
         due("itself alone", y.reached(NONE, 0), 1);
@@ -616,7 +655,8 @@ public final class Boundaries {
     }
 
     private static void metInOrder() {
-        said("numbered from 0 on as they are met: from each by numbers, by each TRANSITION that CAN fire, by numbers");
+        said("numbered from 0 on as they are met: from each by numbers, by each TRANSITION that CAN fire, "
+            + "by numbers");
         PlaceNets x = of("mA;A>C;A>B;C>D;B>E;E>A");
         int[][] want = {{1, 0, 0, 0, 0}, {0, 0, 1, 0, 0}, {0, 1, 0, 0, 0}, {0, 0, 0, 1, 0}, {0, 0, 0, 0, 1}};
         due("how many", x.reached(NONE, 0), 5);
@@ -661,7 +701,8 @@ public final class Boundaries {
     }
 
     private static void aliveByDegrees() {
-        said("A TRANSITION is 2 ALIVE, if from each of them one can come to one at which it CAN fire; else 1, if at some of them it CAN; else 0");
+        said("A TRANSITION is 2 ALIVE, if from each of them one can come to one at which it CAN fire; "
+            + "else 1, if at some of them it CAN; else 0");
         PlaceNets x = of("mA;A>B;B>B;C>;B>AC");
         due("from each", x.alive(1), 2);
         due("C grows to 99", x.alive(3), 2);
@@ -674,6 +715,38 @@ public final class Boundaries {
         due("nothing can, of one marking", of("mA;B>").alive(0), 0);
         due("always", of("mA;>").alive(0), 2);
         due("once alone", of("mA;A>").alive(0), 1);
+        PlaceNets ten = of("mA;A>B;B>A;C>;C>;C>;C>;C>;C>;C>;C>");
+        row("the tenth never", new int[] {ten.alive(0), ten.alive(8), ten.alive(9), ten.dead(2)}, 2, 0, 0, 2);
+        PlaceNets last = of("mA;C>;C>;C>;C>;C>;C>;C>;C>;A>B;A>A");
+        row("the tenth at first alone", new int[] {last.alive(8), last.alive(9), last.dead(2), last.dead(3)}, 1, 1, 1, 2);
+    }
+
+    /** What was told of one marking must not be told of the next, whatever came between. */
+    private static void fromTheMarkingAsItIs() {
+        said("from the MARKING as it is");
+        PlaceNets x = of("mA2;A>B2");
+        x.goal(1, 2);
+        row("of two", new int[] {x.node(NONE, 0), x.covers(0), x.bound(1), x.reached(NONE, 0), x.event(NONE, 0)},
+            3, 1, 4, 3, 2);
+        x.put(0, 0);
+        row("of none", new int[] {x.node(NONE, 0), x.covers(0), x.bound(1), x.reached(NONE, 0), x.event(NONE, 0)},
+            1, -3, 0, 1, 0);
+        x.undo();
+        x.put(0, 1);
+        row("of one", new int[] {x.node(NONE, 0), x.covers(0), x.bound(1), x.reached(NONE, 0), x.event(NONE, 0)},
+            2, 1, 2, 2, 1);
+        x.undo();
+        row("of two again", new int[] {x.node(NONE, 0), x.covers(1), x.way(NONE), x.dead(0), x.condition(NONE, 0)},
+            3, 2, -3, 1, 6);
+        tell(x, "mB;A>B2");
+        row("of another net", new int[] {x.node(NONE, 0), x.reached(NONE, 0), x.event(NONE, 0), x.condition(0, 0)},
+            1, 1, 0, 1);
+        PlaceNets far = with(WIDE, 66, 0);
+        due("201 nodes", far.bound(0), -2);
+        far.run(0, 200);
+        far.put(0, 1);
+        far.put(1, 0);
+        due("no more so many", far.bound(0), 1);
     }
 
     // ---- term 3: flows, siphons, traps
@@ -717,6 +790,19 @@ public final class Boundaries {
         row("I", flow(x, 0, 7), 0, 0, 0, 0, 0, 0, 0, 0, 1, 0);
         row("BJ", flow(x, 0, 8), 0, 1, 0, 0, 0, 0, 0, 0, 0, 1);
         due("nine", x.flow(0, NONE, 0), 9);
+        tell(x, "mA");
+        row("of the next net", flow(x, 0, 0), 1);
+        PlaceNets d = of("mD;B>C");
+        row("A", flow(d, 0, 0), 1, 0, 0, 0);
+        row("BC between A and D", flow(d, 0, 1), 0, 1, 1, 0);
+        row("D", flow(d, 0, 2), 0, 0, 0, 1);
+        PlaceNets e = of("AC>DE;A2B>E");
+        row("CD", flow(e, 0, 0), 0, 0, 1, 1, 0);
+        row("ACE", flow(e, 0, 1), 1, 0, 1, 0, 2);
+        row("BCE", flow(e, 0, 2), 0, 1, 1, 0, 1);
+        tell(e, "mABC");
+        row("of the next net", flow(e, 0, 0), 1, 0, 0);
+        row("of the next net", flow(e, 0, 2), 0, 0, 1);
         PlaceNets y = of("A>B;>;B>A;B>A");
         row("rounds: 1", flow(y, 1, 0), 0, 1, 0, 0);
         row("rounds: 0 and 2", flow(y, 1, 1), 1, 0, 1, 0);
@@ -729,11 +815,34 @@ public final class Boundaries {
         due(what + ", of transitions", of(turned(text)).flow(1, NONE, 0), want);
     }
 
+    private static void rowsThatStayAndGo() {
+        said("each row that it does not change stays, and of each pair of one that it makes more and one "
+            + "that it makes less comes the sum");
+        work("no pair: none made less", ">AB", 0);
+        work("no pair: none made more", "AB>", 0);
+        work("no pair, one stays", ">A;mB", 1);
+        work("one pair", "A>B", 1);
+        work("two pairs", "A>BC", 2);
+        due("none is changed", of("A>A;B2>B2;>").flow(0, NONE, 0), 2);
+        due("none is changed, of transitions", of("A>A;B2>B2;>").flow(1, NONE, 0), 3);
+        said("then rows go of which another one has fewer numbers that are not 0, all of these among its "
+            + "own (of rows with the same ones one alone stays)");
+        work("AD and BC stay, ABCD goes", "AB>CD;AC>BD", 2);
+        row("BC", flow(of("AB>CD;AC>BD"), 0, 0), 0, 1, 1, 0);
+        row("AD", flow(of("AB>CD;AC>BD"), 0, 1), 1, 0, 0, 1);
+        work("the same twice", "AB>CD;AB>CD", 4);
+    }
+
     private static void threeHundredRows() {
         said("those that stay and those that come are more than 300 together (ahead of those that go)");
         work("300 that come", "AC2IJ>BD2EFGH;ADGH>BCEJ;ADEGJ>F2I;B2C>DEH2IJ", 32);
         work("300 with some that stay", "B2DJ>CF2GHI;AE2GI>DFH;ABC2H>DEFGIJ;ABDE>CFGIJ;ADHI2>FGJ", 15);
         work("301", "ABDGHIJ>CF2;BEFGJ>A2CDHI;AE2FH>BC2DGI;DFJ2>ABCGH2I", -2);
+        work("more than 301", "B2C2D2FI2J>AEG;BCDF>H2IJ;CEIJ>D2G2H", -2);
+        PlaceNets x = of("ABDGHIJ>CF2;BEFGJ>A2CDHI;AE2FH>BC2DGI;DFJ2>ABCGH2I");
+        due("too far", x.flow(0, NONE, 0), -2);
+        tell(x, "A>B");
+        row("the next net does not go so far", new int[] {x.flow(0, NONE, 0), x.flow(0, 0, 1), x.kept(0)}, 1, 1, 0);
     }
 
     private static void greatNumbers() {
@@ -746,9 +855,13 @@ public final class Boundaries {
         String tens = "I>J9;H>I9J9;G>H9I9J9;F>G9H9I9J9;E>F9G9H9I9J9;D>E9F9G9H9I9J9;A8>B9;C>A8B7;A>BD8E6F8H5I5J5";
         work("a number of 1000000000", tens, 1);
         due("that number", of(tens).flow(0, 0, 2), 1000000000);
-        // E .. J are 90000, .., 9, 1; A, B, C, D are 9, 8, 153, 1463; 1463 times 683527 is 1000000001
-        work("a number of 1000000001",
-            "I>J9;H>I9J9;G>H9I9J9;F>G9H9I9J9;E>F9G9H9I9J9;A8>B9;C>A9B9;D>C9A6B4;A>E7F5G9H4I7J4", -2);
+        // E .. J are 90000, .., 9, 1; D, B, C, A are 9, 8, 153, 1463; 1463 times 683527 is 1000000001
+        String fives = "I>J9;H>I9J9;G>H9I9J9;F>G9H9I9J9;E>F9G9H9I9J9;";
+        work("a number of 1000000001, of A", fives + "D8>B9;C>D9B9;A>C9D6B4;D>E7F5G9H4I7J4", -2);
+        work("a number of 1000000001, of D", fives + "A8>B9;C>A9B9;D>C9A6B4;A>E7F5G9H4I7J4", -2);
+        work("a number of 999998538 parted by 3", fives + "D8>B9;C>D9B9;A>C9D6B4;D>E7F5G9H4I7J3", 1);
+        work("a number of one that comes and goes",
+            "D2F7>E7G7J6;E2H5>I7;B8C7E9>D9I7;DI2>E6J9;C4D>H6I9;G4I9>B2", -2);
     }
 
     private static void siphonsAndTraps() {
@@ -759,6 +872,18 @@ public final class Boundaries {
         row("a trap of which nothing takes", sets(of(">A"), 1), 1);
         row("every place, without transitions", sets(of("mC"), 0), 1, 2, 4);
         row("every place, without transitions", sets(of("mC"), 1), 1, 2, 4);
+    }
+
+    private static void closedSets() {
+        said("of which each TRANSITION that PUTS into it TAKES out of it, too; a TRAP: each that TAKES "
+            + "out of it PUTS into it");
+        row("one that puts alone: no siphon", sets(of("A>A;>A"), 0));
+        row("one that takes alone: no trap", sets(of("A>A;A>"), 1));
+        row("both are", new int[] {of("A>A;A>").least(0, 0), of("A>A;>A").least(1, 0)}, 1, 1);
+        row("out of another place of it", sets(of("A>B;B>A"), 0), 3);
+        row("out of a place beside it", sets(of("A>B"), 0), 1);
+        row("into a place beside it", sets(of("A>B"), 1), 2);
+        row("whatever the numbers", sets(of("A9>A"), 1), 1);
     }
 
     private static void leastSets() {
@@ -823,6 +948,8 @@ public final class Boundaries {
     private static void unlikeConditions() {
         said("a TRANSITION with unlike CONDITIONS, as many of each PLACE as it TAKES, that can hold at once");
         due("one is not two", of("mA;A2>B").event(NONE, 0), 0);
+        due("two A are no A and B", of("mA3B;AB>C").event(NONE, 0), 3);
+        due("two B are no A and B", of("mAB3;AB>C").event(NONE, 0), 3);
         row("two", event(of("mA2;A2>B"), 0), 0, 1, 0, 0, 1);
         row("three of two places", event(of("mA2B;A2B>C"), 0), 0, 1, 0, 0, 1, 2);
         due("of one past", of("mA;A>B;A>C;BC>D").event(NONE, 0), 2);
@@ -849,7 +976,8 @@ public final class Boundaries {
     }
 
     private static void eventsInOrder() {
-        said("with the fewest EVENTS in its PAST; of like ones that of the least TRANSITION; of these that of the least row of CONDITIONS");
+        said("with the fewest EVENTS in its PAST; of like ones that of the least TRANSITION; of these "
+            + "that of the least row of CONDITIONS");
         PlaceNets x = of("mAC;B>D;C>E;A>B;DE>F");
         row("the least transition", event(x, 0), 1, 1, 0, 1);
         row("the next", event(x, 1), 2, 1, 0, 0);
@@ -874,7 +1002,8 @@ public final class Boundaries {
     }
 
     private static void cutByFewer() {
-        said("is that of the first CONDITIONS, or that which the PAST of an EVENT of a lesser number with fewer EVENTS in it leaves");
+        said("is that of the first CONDITIONS, or that which the PAST of an EVENT of a lesser number with "
+            + "fewer EVENTS in it leaves");
         due("the first marking", of("mA;A>A").event(0, 2), 1);
         PlaceNets x = of("mA;A>B;A>B;A>C;C>B");
         row("as many: not cut", new int[] {x.event(0, 2), x.event(1, 2)}, 0, 0);
@@ -884,6 +1013,7 @@ public final class Boundaries {
         due("each goes on", y.event(NONE, 0), 6);
         row("and none is cut", new int[] {y.event(4, 2), y.event(5, 2)}, 0, 0);
         due("no token left is no marking of the first", of("mA;A>").event(0, 2), 0);
+        row("by the first event alone", event(of("mA;A>B;A>C;C>B"), 2), 2, 2, 1, 2);
     }
 
     private static void takesNothing() {
@@ -945,10 +1075,44 @@ public final class Boundaries {
         due("the first and the last", y.atOnce(0, 79), 0);
         tooMuchUnfolded("81", of("mAJ8;A>B9C9D9E9F9G9H9I9"));
         due("12 cut ones", of("mA9A3;A>A").event(NONE, 0), 12);
+        tooMuchUnfolded("31 one behind the other", of("mA;A>AB"));
+        allPairs();
+        y.put(0, 0);
+        due("seven left", y.condition(NONE, 0), 7);
+        due("all at once", y.atOnce(0, 6), 1);
+        due("0 with itself", y.atOnce(0, 0), 0);
+    }
+
+    /** Condition 0 is an A, 1 to 7 are J, all others come of the one event, which has A. */
+    private static void allPairs() {
+        int unlike = 0;
+        for (int a = 0; a < 80; a++) {
+            PlaceNets x = of("mAJ7;A>B9C9D9E9F9G9H9I9");
+            for (int b = 0; b < 80; b++) {
+                boolean apart = a == b || (a == 0 && b > 7) || (b == 0 && a > 7);
+                unlike += x.atOnce(a, b) == (apart ? 0 : 1) ? 0 : 1;
+            }
+        }
+        due("pairs that are told wrong", unlike, 0);
+        behindOneEvent();
+    }
+
+    /** Condition 0 is an A, 1 to 9 are B, 10 to 36 come with them; 37 to 45 are the F that come of B 1 to 9. */
+    private static void behindOneEvent() {
+        int unlike = 0;
+        for (int a = 0; a < 46; a++) {
+            PlaceNets x = of("mA;A>B9C9D9E9;B>F");
+            for (int b = 0; b < 46; b++) {
+                boolean apart = a == b || a == 0 || b == 0 || (a > 36 && b == a - 36) || (b > 36 && a == b - 36);
+                unlike += x.atOnce(a, b) == (apart ? 0 : 1) ? 0 : 1;
+            }
+        }
+        due("pairs behind one event that are told wrong", unlike, 0);
     }
 
     private static void holdAtOnce() {
-        said("unlike ones, neither of which is among those that EVENTS of the other one's PAST (of the EVENT it comes of) have");
+        said("unlike ones, neither of which is among those that EVENTS of the other one's PAST (of the "
+            + "EVENT it comes of) have");
         PlaceNets x = of("mAB;A>C2;C>D;B>E");
         due("one with itself", x.atOnce(0, 0), 0);
         due("first ones", x.atOnce(0, 1), 1);
@@ -962,6 +1126,9 @@ public final class Boundaries {
         due("D with B", x.atOnce(1, 6), 1);
         due("D with E", x.atOnce(4, 6), 1);
         said("no two unlike EVENTS of both PASTS together have a CONDITION in common");
+        tell(x, "mA;A>B;A>C");
+        due("nothing of the net before", x.atOnce(0, 1), 0);
+        due("nothing of the net before", x.atOnce(1, 2), 0);
         PlaceNets y = of("mA;A>B;A>C;B>D;C>E");
         due("instead of each other", y.atOnce(1, 2), 0);
         due("one event later", y.atOnce(3, 2), 0);
@@ -989,6 +1156,20 @@ public final class Boundaries {
         due("without a fault", x.net(), 2);
         due("no signs", x.count(3), 0);
         due("empty", x.net(), -1000);
+    }
+
+    private static void netsInTurn() {
+        said("THE TEXT becomes the NET");
+        PlaceNets x = of("mA3J3;A2J>A3J4;>B");
+        due("a second", tell(x, "mB;B>C"), 1);
+        due("a third", tell(x, ">;mC2"), 1);
+        row("the third's marking alone", now(x), 0, 0, 2);
+        row("the third's arcs alone", new int[] {x.arc(0, 0, 0), x.arc(0, 0, 1), x.arc(0, 2, 0), x.arc(0, 2, 1)}, 0, 0, 0, 0);
+        due("one transition", arc(x, 1, 0, 0), THROWN);
+        due("a fault", tell(x, "mA9;A9>A9;A9A"), -1012);
+        due("a fourth", tell(x, ">A;mB"), 1);
+        row("nothing of the fault", new int[] {x.tokens(0, 1), x.arc(0, 0, 0), x.arc(0, 0, 1), x.count(0), x.count(1)},
+            0, 0, 1, 2, 1);
     }
 
     private static void aNewNet() {
@@ -1074,6 +1255,28 @@ public final class Boundaries {
         due("no transition", of("mA").fire(0), -2);
     }
 
+    private static void refusedNumbers() {
+        said("-1 a number that can't be");
+        PlaceNets x = of(RING);
+        row("tokens", new int[] {x.put(0, -1), x.put(0, 100), x.goal(0, -1), x.goal(0, 100)}, -1, -1, -1, -1);
+        row("the least and the most", new int[] {x.put(0, 0), x.put(0, 99), x.goal(0, 0), x.goal(0, 99)}, 1, 0, 0, 0);
+        row("runs", new int[] {x.run(-1, 1), x.run(1000000, 1), x.run(0, 0), x.run(0, 201)}, -1, -1, -1, -1);
+        row("the least and the most", new int[] {x.run(0, 1), x.run(999999, 200)}, 1, 200);
+    }
+
+    private static void refusedByWhatStands() {
+        said("-3 it can't be by what stands");
+        PlaceNets x = of(RING);
+        row("refused", new int[] {x.undo(), x.fire(1)}, -3, -3);
+        row("then not", new int[] {x.fire(0), x.fire(1), x.undo(), x.undo(), x.undo()}, 1, 1, 1, 0, -3);
+        due("as at first", x.can(), 1);
+    }
+
+    private static void constants() {
+        said("`MANY = -9`: There are more than are told");
+        row("NONE and MANY", new int[] {PlaceNets.NONE, PlaceNets.MANY}, -1, -9);
+    }
+
     private static void refusedInOrder() {
         said("The first of these in that order");
         PlaceNets x = new PlaceNets();
@@ -1121,7 +1324,8 @@ public final class Boundaries {
     }
 
     private static void anyNumberWhereTooMany() {
-        said("but where that is told there may be any number i, k, a, b from 0 on (of NODES, MARKINGS, FLOWS, EVENTS, CONDITIONS)");
+        said("but where that is told there may be any number i, k, a, b from 0 on (of NODES, MARKINGS, "
+            + "FLOWS, EVENTS, CONDITIONS)");
         int[] numbers = {0, 1, 30, 80, 200, 201, 300, 301, 5000, GREATEST};
         PlaceNets x = with(WIDE, 66, 0);
         PlaceNets y = with(GRID, 42, 0, 6, 0);
@@ -1277,7 +1481,8 @@ public final class Boundaries {
     }
 
     private static void runsToTheirEnd() {
-        said("n times (1 .. 200) a DRAW of how many CAN: that one of them, by numbers, fires; it ends where none CAN: how often one fired");
+        said("n times (1 .. 200) a DRAW of how many CAN: that one of them, by numbers, fires; it ends "
+            + "where none CAN: how often one fired");
         due("once", of(RING).run(0, 1), 1);
         due("200 times", of(RING).run(0, 200), 200);
         PlaceNets x = of("mA3;A>");
@@ -1346,7 +1551,9 @@ public final class Boundaries {
     }
 
     private static void nodesTold() {
-        said("NODES: how many (i NONE, what 0); of the i-th what is in a PLACE (what 0 and on; MANY), the NODE it comes of (10; NONE of 0), by which TRANSITION (11; NONE), whether an END (12: 0 no, 1 DEAD, 2 OLD)");
+        said("NODES: how many (i NONE, what 0); of the i-th what is in a PLACE (what 0 and on; MANY), the "
+            + "NODE it comes of (10; NONE of 0), by which TRANSITION (11; NONE), whether an END (12: 0 no, "
+            + "1 DEAD, 2 OLD)");
         PlaceNets x = of(RING);
         due("how many", x.node(NONE, 0), 3);
         row("node 2", new int[] {x.node(2, 0), x.node(2, 1), x.node(2, 10), x.node(2, 11), x.node(2, 12)}, 1, 0, 1, 1, 2);
@@ -1372,7 +1579,8 @@ public final class Boundaries {
     }
 
     private static void coversTold() {
-        said("The least NODE that has as many TOKENS as the GOAL, or more, in each PLACE (what 0; -3: none), how many such (1)");
+        said("The least NODE that has as many TOKENS as the GOAL, or more, in each PLACE (what 0; -3: "
+            + "none), how many such (1)");
         PlaceNets x = of("mA2;A>B2");
         row("a goal of none", new int[] {x.covers(0), x.covers(1)}, 0, 3);
         x.goal(1, 2);
@@ -1389,7 +1597,8 @@ public final class Boundaries {
     }
 
     private static void reachedTold() {
-        said("MARKINGS: how many (i NONE, what 0); of the i-th TOKENS in a PLACE (what 0 and on), TRANSITIONS that CAN, as bits (10), the fewest firings by which one comes to it (11)");
+        said("MARKINGS: how many (i NONE, what 0); of the i-th TOKENS in a PLACE (what 0 and on), "
+            + "TRANSITIONS that CAN, as bits (10), the fewest firings by which one comes to it (11)");
         PlaceNets x = of("mA;A>B;B>C;A>C");
         due("how many", x.reached(NONE, 0), 3);
         row("marking 0", new int[] {x.reached(0, 0), x.reached(0, 2), x.reached(0, 10), x.reached(0, 11)}, 1, 0, 5, 0);
@@ -1403,7 +1612,8 @@ public final class Boundaries {
     }
 
     private static void deadTold() {
-        said("How many of them are DEAD (what 0), the least of these (1; -3: none), from how many one can come to the MARKING 0 (itself, too; 2), from how many to a DEAD one (themselves, too; 3)");
+        said("How many of them are DEAD (what 0), the least of these (1; -3: none), from how many one can "
+            + "come to the MARKING 0 (itself, too; 2), from how many to a DEAD one (themselves, too; 3)");
         PlaceNets ring = of(RING);
         row("none dead", new int[] {ring.dead(0), ring.dead(1), ring.dead(2), ring.dead(3)}, 0, -3, 2, 0);
         PlaceNets one = of("mA");
@@ -1425,7 +1635,8 @@ public final class Boundaries {
     }
 
     private static void waysTold() {
-        said("The fewest firings by which one comes to just the GOAL: how many (i NONE), the i-th TRANSITION of them (as the MARKINGS were met). -3: it can't be come to");
+        said("The fewest firings by which one comes to just the GOAL: how many (i NONE), the i-th "
+            + "TRANSITION of them (as the MARKINGS were met). -3: it can't be come to");
         PlaceNets x = of("mA;A>B;A>C;C>D;B>D;D>A");
         due("a goal of none can't be come to", x.way(NONE), -3);
         x.goal(0, 1);
@@ -1446,7 +1657,8 @@ public final class Boundaries {
     }
 
     private static void flowsTold() {
-        said("LEAST FLOWS of PLACES (kind 0), of TRANSITIONS (1): how many (i NONE, whatever k is), of the i-th the number of the k-th PLACE, TRANSITION");
+        said("LEAST FLOWS of PLACES (kind 0), of TRANSITIONS (1): how many (i NONE, whatever k is), of "
+            + "the i-th the number of the k-th PLACE, TRANSITION");
         PlaceNets x = of("A>B;B>C;C>A;A>A");
         for (int k : new int[] {LEAST, -2, -1, 0, 3, 10, GREATEST}) {
             row("how many, k " + k, new int[] {x.flow(0, NONE, k), x.flow(1, NONE, k)}, 1, 2);
@@ -1524,6 +1736,9 @@ public final class Boundaries {
         due("the same, other numbers", of("AB2>;A3B>").kinds() & 16, 16);
         due("one more", of("AB>;A>").kinds() & 16, 0);
         due("one more, the later", of("A>;AB>").kinds() & 16, 0);
+        said("What the NET is, as bits");
+        row("each without one of them", new int[] {of("A2>B;A2>").kinds(), of("AC>A;BD>B").kinds(), of("AC>BD").kinds(),
+            of("A>B;A>B").kinds(), of("AB>C;A>D").kinds(), of("A2B>A;A>D").kinds()}, 18, 25, 27, 23, 3, 0);
         due("all without transitions", of("mA").kinds(), 31);
         due("no net", new PlaceNets().kinds(), NONE);
     }
@@ -1531,6 +1746,7 @@ public final class Boundaries {
     private static void caughtTold() {
         said("CAUGHT: 1, 0");
         row("1, 0, none", new int[] {of(RING).caught(), of("A>B;B>A").caught(), new PlaceNets().caught()}, 1, 0, -1);
+        said("CAUGHT: in each LEAST SIPHON there is a TRAP in which a TOKEN is");
         due("a token beside the trap in the siphon", with("A>B;B>BA;A>C", 1, 0, 1).caught(), 0);
         due("one in it", with("A>B;B>BA;A>C", 0, 1, 0).caught(), 1);
     }
@@ -1552,7 +1768,8 @@ public final class Boundaries {
     }
 
     private static void conditionsTold() {
-        said("CONDITIONS: how many (i NONE, what 0); of the i-th its PLACE (what 0), the EVENT it comes of (1; -3: of none)");
+        said("CONDITIONS: how many (i NONE, what 0); of the i-th its PLACE (what 0), the EVENT it comes "
+            + "of (1; -3: of none)");
         PlaceNets x = of("mA;A>J");
         due("two", x.condition(NONE, 0), 2);
         row("they", new int[] {x.condition(0, 0), x.condition(0, 1), x.condition(1, 0), x.condition(1, 1)}, 0, -3, 9, 0);
@@ -1633,6 +1850,7 @@ public final class Boundaries {
         numbersBehindPlaces();
         placesToldAgain();
         placesUpToTheLast();
+        tenOfBoth();
         blanks();
         firstFault();
         signsThatCannotStand();
@@ -1651,11 +1869,13 @@ public final class Boundaries {
         growing();
         backToNodeZero();
         oldAheadOfDead();
+        deadNodes();
         twoHundredNodes();
         markingsTo99();
         metInOrder();
         threeHundredMarkings();
         aliveByDegrees();
+        fromTheMarkingAsItIs();
     }
 
     private static void moreTerms() {
@@ -1663,9 +1883,11 @@ public final class Boundaries {
         leastFlows();
         leastTerms();
         flowsAsBits();
+        rowsThatStayAndGo();
         threeHundredRows();
         greatNumbers();
         siphonsAndTraps();
+        closedSets();
         leastSets();
         setsAsBits();
         greatestTrap();
@@ -1683,10 +1905,14 @@ public final class Boundaries {
         thirtyEvents();
         holdAtOnce();
         netEmptiesTheText();
+        netsInTurn();
         aNewNet();
         tenActs();
         refusedChangeNothing();
         refusedWithoutNet();
+        refusedNumbers();
+        refusedByWhatStands();
+        constants();
         refusedInOrder();
         gettersWithoutNet();
         noneAheadOfTooMany();
