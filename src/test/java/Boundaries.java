@@ -8,7 +8,7 @@ import java.util.NoSuchElementException;
 
 /**
  * Each sentence of the document that names a boundary case (too small, too large, empty, full, a wrap-around, a
- * refused call) has a method of its own here, which begins with the sentence's words.
+ * refused call) has a test of its own here, which begins with the sentence's words.
  * With the document's path as an argument it tells which words do not stand in the document any more.
  */
 public final class Boundaries {
