@@ -104,7 +104,7 @@ public final class PlaceNets {
             return CANNOT;
         }
         keepAct();
-        told.move(marking, 0, transition);
+        told.move(marking, transition);
         return Integer.bitCount(told.readyBits(marking));
     }
 
@@ -137,7 +137,7 @@ public final class PlaceNets {
                 return fired;
             }
             s = (1103 * s + 12345) % 1000003;
-            told.move(marking, 0, bitAt(ready, s % choices));
+            told.move(marking, bitAt(ready, s % choices));
         }
         return n;
     }
@@ -541,12 +541,12 @@ public final class PlaceNets {
             return bits;
         }
 
-        void move(int[] row, int base, int t) {
+        void move(int[] row, int t) {
             if (!hasTransition(t)) {
                 return;
             }
             for (int p = 0; p < places; p++) {
-                row[base + p] += change(t, p);
+                row[p] += change(t, p);
             }
         }
 
@@ -954,7 +954,7 @@ public final class PlaceNets {
             for (int t = 0; t < transitions && !tooMany; t++) {
                 if ((ready[i] >> t & 1) == 1) {
                     System.arraycopy(held, i * WIDTH, coming, 0, WIDTH);
-                    net.move(coming, 0, t);
+                    net.move(coming, t);
                     int to = find(coming);
                     next[i * MOST_TRANSITIONS + t] = to == NONE ? add(net, coming, i, t) : to;
                 }
@@ -1096,6 +1096,7 @@ public final class PlaceNets {
     private static final class Flows {
         private static final int MOST_ROWS = 300;
         private static final int MOST_NUMBER = 1000000000;
+        private static final int MOST_KEPT = 2147483647;
         // More than Euclid's way takes for any two longs.
         private static final int MOST_DIVISIONS = 100;
 
@@ -1288,7 +1289,7 @@ public final class PlaceNets {
             for (int k = 0; k < width; k++) {
                 weight += (long) rows[order[i] * WIDTH + k] * marking[k];
             }
-            return (int) Math.min(weight, Integer.MAX_VALUE);
+            return (int) Math.min(weight, MOST_KEPT);
         }
     }
 
@@ -1509,11 +1510,10 @@ public final class PlaceNets {
             }
             int from = depth == 0 ? 0 : picked[depth - 1] + 1;
             for (int c = from; c < oldConditions && !tooMany; c++) {
-                int all = before | pastOf(c);
-                if (isFit(c, depth) && Integer.bitCount(all) < pastSize) {
+                if (isFit(c, depth)) {
                     picked[depth] = c;
                     missing[place[c]]--;
-                    pick(net, t, needed, depth + 1, all);
+                    pick(net, t, needed, depth + 1, before | pastOf(c));
                     missing[place[c]]++;
                 }
             }
@@ -1555,11 +1555,14 @@ public final class PlaceNets {
         }
 
         private void leave(Net net, int e) {
-            System.arraycopy(start, 0, left, e * WIDTH, WIDTH);
-            for (int f = 0; f <= e; f++) {
-                if ((past[e] >> f & 1) == 1) {
-                    net.move(left, e * WIDTH, transition[f]);
+            for (int p = 0; p < places; p++) {
+                int n = start[p];
+                for (int f = 0; f <= e; f++) {
+                    if ((past[e] >> f & 1) == 1) {
+                        n += net.change(transition[f], p);
+                    }
                 }
+                left[e * WIDTH + p] = n;
             }
         }
 

