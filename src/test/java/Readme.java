@@ -14,6 +14,7 @@ import javax.tools.ToolProvider;
 public final class Readme {
     private static final Path PAGE = Path.of("README.md");
     private static final Path TESTS = Path.of("src/test/java");
+    private static final String DOCUMENT = "../shared/DOC.md";
     private static final String CLASS = "src/main/java/PlaceNets.java";
     /** A line of the example that shows an answer, and the answer that stands behind it. */
     private static final Pattern SHOWN = Pattern.compile("show\\(.*\\); +// (true|false|-?\\d+)\\b.*");
@@ -83,10 +84,11 @@ public final class Readme {
         }
     }
 
-    /** Each command is run by a shell where a reader would run it; this test itself and .ci/run are running already. */
+    /** Each command is run by a shell where a reader would run it, but for this test, which is running already. */
     private static void commands(String page) throws Exception {
         for (String command : block(page, "sh")) {
-            if (command.endsWith(" Readme")) {
+            boolean apart = command.contains(DOCUMENT) && !Files.exists(Path.of(DOCUMENT));
+            if (command.endsWith(" Readme") || apart) {
                 continue;
             }
             tried++;
